@@ -4,13 +4,15 @@
  */
 public final class DefinitionTest {
     private static final int MOST_FORESTS = 16;
+    private static final int MOST_CALLS = 512;
 
     private static int wrong = 0;
     private static long seed = 20261115L;
 
     private final int vertices;
     private final int limit;
-    private final ForestPacker packer;
+    private ForestPacker packer;
+    private int calls = 0;
     private final int[] from = new int[17];
     private final int[] to = new int[17];
     private int count = 0;
@@ -40,6 +42,19 @@ public final class DefinitionTest {
                 + ", due is " + want);
     }
 
+    /** The object for the next call: a new one like it when the promised calls are used up. */
+    private ForestPacker packer() {
+        if (calls == MOST_CALLS) {
+            packer = new ForestPacker(vertices);
+            for (int e = 0; e < count; e++) {
+                packer.edge(from[e], to[e]);
+            }
+            calls = count;
+        }
+        calls++;
+        return packer;
+    }
+
     private static int asInt(boolean b) {
         return b ? 1 : 0;
     }
@@ -47,7 +62,7 @@ public final class DefinitionTest {
     // ---- the definitions
 
     private boolean isForest(int mask) {
-        int[] part = partsOf(mask & 0);
+        int[] part = partsOf(0);
         for (int e = 0; e < 17; e++) {
             if ((mask >> e & 1) != 0) {
                 if (part[from[e]] == part[to[e]]) {
@@ -125,14 +140,12 @@ public final class DefinitionTest {
 
     private int spanningTrees(boolean[] forest) {
         int[] trees = new int[forest.length];
-        int best = 0;
         for (int mask = 1; mask < forest.length; mask++) {
-            // The number for a set is that for the set with an edge less, or a tree has every
-            // edge that stands lowest: so it is enough to look at trees with the lowest edge.
             int low = mask & -mask;
             int rest = mask ^ low;
+            // Either no tree has the lowest edge, or one has it and the others share what is left.
             trees[mask] = trees[rest];
-            for (int more = rest; more != 0 || vertices == 2; more = more - 1 & rest) {
+            for (int more = rest; ; more = more - 1 & rest) {
                 boolean tree = forest[more | low] && Integer.bitCount(more | low) == vertices - 1;
                 if (tree && trees[rest ^ more] + 1 > trees[mask]) {
                     trees[mask] = trees[rest ^ more] + 1;
@@ -141,9 +154,8 @@ public final class DefinitionTest {
                     break;
                 }
             }
-            best = Math.max(best, trees[mask]);
         }
-        return best;
+        return trees[forest.length - 1];
     }
 
     private int partCount() {
@@ -167,7 +179,7 @@ public final class DefinitionTest {
 
     private void edge(int u, int v) {
         int want = !joinable(u, v) ? -1 : count == 16 ? -2 : count;
-        due("edge(" + u + ", " + v + ")", packer.edge(u, v), want);
+        due("edge(" + u + ", " + v + ")", packer().edge(u, v), want);
         if (want >= 0) {
             from[count] = u;
             to[count] = v;
@@ -176,13 +188,13 @@ public final class DefinitionTest {
     }
 
     private void unedge() {
-        due("unedge()", packer.unedge(), count == 0 ? -4 : count - 1);
+        due("unedge()", packer().unedge(), count == 0 ? -4 : count - 1);
         count = Math.max(0, count - 1);
     }
 
     private void rejoin(int e, int u, int v) {
         boolean good = e >= 0 && e < count && joinable(u, v);
-        due("rejoin(" + e + ", " + u + ", " + v + ")", packer.rejoin(e, u, v), good ? 0 : -1);
+        due("rejoin(" + e + ", " + u + ", " + v + ")", packer().rejoin(e, u, v), good ? 0 : -1);
         if (good) {
             from[e] = u;
             to[e] = v;
@@ -208,13 +220,13 @@ public final class DefinitionTest {
         boolean[] forest = forests(count);
         byte[] needed = forestsNeeded(forest);
         int[] hold = holds(needed, 0);
-        due("vertices()", packer.vertices(), vertices);
-        due("edges()", packer.edges(), count);
-        due("needed()", packer.needed(), needed[needed.length - 1]);
-        due("trees()", packer.trees(), spanningTrees(forest));
-        due("parts()", packer.parts(), partCount());
+        due("vertices()", packer().vertices(), vertices);
+        due("edges()", packer().edges(), count);
+        due("needed()", packer().needed(), needed[needed.length - 1]);
+        due("trees()", packer().trees(), spanningTrees(forest));
+        due("parts()", packer().parts(), partCount());
         for (int k = 0; k <= MOST_FORESTS; k++) {
-            due("hold(" + k + ")", packer.hold(k), hold[k]);
+            due("hold(" + k + ")", packer().hold(k), hold[k]);
         }
         askBetween();
         askFirm(needed, hold);
@@ -228,7 +240,7 @@ public final class DefinitionTest {
                 for (int e = 0; e < count; e++) {
                     want += asInt(from[e] == u && to[e] == v || from[e] == v && to[e] == u);
                 }
-                due("between(" + u + ", " + v + ")", packer.between(u, v), want);
+                due("between(" + u + ", " + v + ")", packer().between(u, v), want);
             }
         }
     }
@@ -240,11 +252,11 @@ public final class DefinitionTest {
             for (int k = 0; k <= MOST_FORESTS; k++) {
                 int want = asInt(less[k] < hold[k]);
                 firm[k] += want;
-                due("isFirm(" + e + ", " + k + ")", asInt(packer.isFirm(e, k)), want);
+                due("isFirm(" + e + ", " + k + ")", asInt(packer().isFirm(e, k)), want);
             }
         }
         for (int k = 0; k <= MOST_FORESTS; k++) {
-            due("firm(" + k + ")", packer.firm(k), firm[k]);
+            due("firm(" + k + ")", packer().firm(k), firm[k]);
         }
     }
 
@@ -259,13 +271,13 @@ public final class DefinitionTest {
                     int want = asInt(more[k] > hold[k]);
                     room[k] += want;
                     String args = "(" + u + ", " + v + ", " + k + ")";
-                    due("welcome" + args, asInt(packer.welcome(u, v, k)), want);
-                    due("welcome turned" + args, asInt(packer.welcome(v, u, k)), want);
+                    due("welcome" + args, asInt(packer().welcome(u, v, k)), want);
+                    due("welcome turned" + args, asInt(packer().welcome(v, u, k)), want);
                 }
             }
         }
         for (int k = 0; k <= MOST_FORESTS; k++) {
-            due("room(" + k + ")", packer.room(k), room[k]);
+            due("room(" + k + ")", packer().room(k), room[k]);
         }
     }
 
