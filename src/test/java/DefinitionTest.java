@@ -202,12 +202,16 @@ public final class DefinitionTest {
     }
 
     private void anyChange() {
-        int u = pick(vertices + 2) - 1;
-        int v = pick(vertices + 2) - 1;
+        // Wrong inputs and removals are the rarer ones, else the graph would stay near empty.
+        boolean maybeWrong = pick(6) == 0;
+        int u = maybeWrong ? pick(vertices + 2) - 1 : pick(vertices);
+        int v = maybeWrong ? pick(vertices + 2) - 1 : (u + 1 + pick(vertices - 1)) % vertices;
         int kind = pick(10);
-        if (kind < 6 && (count < limit || limit == 16)) {
-            edge(u, v);
-        } else if (kind < 8) {
+        if (kind < 6) {
+            if (count < limit) {
+                edge(u, v);
+            }
+        } else if (kind < 9) {
             rejoin(pick(count + 2) - 1, u, v);
         } else {
             unedge();
@@ -285,7 +289,7 @@ public final class DefinitionTest {
 
     private static void mixedRuns() {
         for (int run = 0; run < 90; run++) {
-            DefinitionTest test = new DefinitionTest(2 + run % 6, 4 + run % 7);
+            DefinitionTest test = new DefinitionTest(2 + run % 6, 4 + run % 9);
             for (int round = 0; round < 4; round++) {
                 for (int change = 0; change < 12; change++) {
                     test.anyChange();
@@ -296,17 +300,26 @@ public final class DefinitionTest {
     }
 
     private static void fullRuns() {
-        for (int vertices = 2; vertices <= 5; vertices++) {
+        for (int vertices = 2; vertices <= 7; vertices++) {
             DefinitionTest test = new DefinitionTest(vertices, 16);
-            for (int change = 0; change < 500 && test.count < 16; change++) {
+            for (int change = 0; change < 60; change++) {
                 test.anyChange();
             }
+            test.fill();
             test.edge(0, 1);
+            test.edge(0, 0);
             test.askAll();
         }
     }
 
-    /** The greatest graph: a ring with its chords, so that no edge stands twice. */
+    private void fill() {
+        while (count < 16) {
+            int u = pick(vertices);
+            edge(u, (u + 1 + pick(vertices - 1)) % vertices);
+        }
+    }
+
+    /** A full graph in which no edge stands twice: a ring with its chords. */
     private static void fullRunOfSeven() {
         DefinitionTest test = new DefinitionTest(7, 16);
         for (int step = 1; step <= 3; step++) {
